@@ -749,30 +749,41 @@ public final class ColourSearch {
     }
 
     /**
-     * Counts colourings by lists. Over all ways to cut the nodes into blocks that hang together, the product of each
-     * block's weight (the coefficient of x in its own polynomial) and the number of colours that all its lists have.
+     * Counts colourings by lists. What simple nodes cannot settle is counted over all ways to cut the nodes into blocks
+     * that hang together: the product of each block's weight (the coefficient of x in its own polynomial) and of the
+     * number of colours that all its lists have.
      */
     private static final class ListCounter {
+        private final int[] open = new int[MOST_NODES];
         private int[] clash = new int[1];
         private int[] weight = new int[1];
         private int[] common = new int[1];
+        private int[] gain = new int[1];
         private long[] sum = new long[1];
+        private int rest;
         private int versionSeen = NONE;
+        private int restSeen;
 
         long count(Net net, int[] allowed) {
-            makeRoom(1 << net.nodes);
-            if (versionSeen != net.version) {
-                versionSeen = net.version;
-                findClashes(net);
-                weighParts(net);
+            System.arraycopy(allowed, 0, open, 0, net.nodes);
+            rest = net.everyNode();
+            long product = takeSimple(net);
+            if (product == 0 || rest == 0) {
+                return product;
             }
-            findCommon(net, allowed);
-            long product = 1;
-            int seen = 0;
+            makeRoom(1 << net.nodes);
+            // Weights do not ask for the lists, so they serve until the net is another.
+            boolean weighed = versionSeen == net.version && restSeen == rest;
+            versionSeen = net.version;
+            restSeen = rest;
+            int waiting = rest;
             for (int v = 0; v < net.nodes; v++) {
-                if ((seen >> v & 1) == 0) {
-                    int part = net.partOf(1 << v, net.everyNode());
-                    seen |= part;
+                if ((waiting >> v & 1) != 0) {
+                    int part = net.partOf(1 << v, rest);
+                    waiting &= ~part;
+                    if (!weighed) {
+                        weighSetsOf(net, part);
+                    }
                     product *= countPart(part);
                 }
             }
@@ -784,46 +795,79 @@ public final class ColourSearch {
                 clash = new int[size];
                 weight = new int[size];
                 common = new int[size];
+                gain = new int[size];
                 sum = new long[size];
+                versionSeen = NONE;
             }
         }
 
-        /** For each set the highest node that is near to a higher one of the set, as a bit; 0: no two are near. */
-        private void findClashes(Net net) {
-            clash[0] = 0;
-            for (int set = 1; set < 1 << net.nodes; set++) {
-                int low = set & -set;
-                int higher = set ^ low;
-                if (clash[higher] != 0) {
-                    clash[set] = clash[higher];
-                } else {
-                    clash[set] = (net.near[lowestOf(set)] & higher) != 0 ? low : 0;
+        /** Takes nodes away from the rest of which it is plain how often they multiply what the others can do. */
+        private long takeSimple(Net net) {
+            long product = 1;
+            boolean found = true;
+            for (int round = 0; round < MOST_NODES && found; round++) {
+                found = false;
+                for (int v = 0; v < net.nodes; v++) {
+                    int beside = net.near[v] & rest;
+                    if ((rest >> v & 1) == 0) {
+                        continue;
+                    }
+                    if (Integer.bitCount(open[v]) <= 1) {
+                        product *= Integer.bitCount(open[v]);
+                        takeColourFrom(net, beside, open[v]);
+                    } else if (net.allNear(beside) && (openTo(net, beside) & ~open[v]) == 0) {
+                        // The near ones have all different colours, each of them out of this node's list.
+                        product *= Integer.bitCount(open[v]) - Integer.bitCount(beside);
+                    } else {
+                        continue;
+                    }
+                    rest &= ~(1 << v);
+                    found = true;
                 }
             }
+            return product;
         }
 
-        private void weighParts(Net net) {
-            int seen = 0;
+        private void takeColourFrom(Net net, int set, int bits) {
             for (int v = 0; v < net.nodes; v++) {
-                if ((seen >> v & 1) == 0) {
-                    int part = net.partOf(1 << v, net.everyNode());
-                    seen |= part;
-                    weighSetsOf(net, part);
+                if ((set >> v & 1) != 0) {
+                    open[v] &= ~bits;
                 }
             }
+        }
+
+        private int openTo(Net net, int set) {
+            int bits = 0;
+            for (int v = 0; v < net.nodes; v++) {
+                if ((set >> v & 1) != 0) {
+                    bits |= open[v];
+                }
+            }
+            return bits;
         }
 
         private void weighSetsOf(Net net, int part) {
             int size = 1 << Integer.bitCount(part);
             int set = 0;
+            clash[0] = 0;
             for (int i = 1; i < size; i++) {
                 set = set - part & part;
+                clash[set] = clashIn(net, set);
                 if ((set & set - 1) == 0) {
                     weight[set] = 1;
                 } else {
                     weight[set] = hangsTogether(net, set) ? weigh(set) : 0;
                 }
             }
+        }
+
+        /** The highest node of a set that is near to a higher one of it, as a bit; 0: no two are near. */
+        private int clashIn(Net net, int set) {
+            int higher = set & set - 1;
+            if (clash[higher] != 0) {
+                return clash[higher];
+            }
+            return (net.near[lowestOf(set)] & higher) != 0 ? set ^ higher : 0;
         }
 
         /** Weights of smaller sets are known: they are 0 just where a set does not hang together. */
@@ -837,33 +881,27 @@ public final class ColourSearch {
             return false;
         }
 
-        /** With one colour there are no colourings of the set: so the sum over the block of its lowest node is 0. */
+        /** With one colour there are no colourings of the set: so the sum over the blocks of its lowest node is 0. */
         private int weigh(int set) {
             int higher = set & set - 1;
             int total = 0;
-            int apart = higher;
+            int others = higher;
             int size = 1 << Integer.bitCount(higher);
-            for (int i = 0; i < size && apart != 0; i++) {
-                int bit = clash[apart];
+            for (int i = 0; i < size && others != 0; i++) {
+                int bit = clash[others];
                 if (bit == 0) {
-                    total -= weight[set ^ apart];
-                    apart = apart - 1 & higher;
+                    total -= weight[set ^ others];
+                    others = others - 1 & higher;
                 } else {
                     // All sets that have the same clash lie next to each other: they are leapt over.
-                    apart = apart ^ bit | higher & bit - 1;
+                    others = others ^ bit | higher & bit - 1;
                 }
             }
             return total;
         }
 
-        private void findCommon(Net net, int[] allowed) {
-            common[0] = ALL_COLOURS;
-            for (int set = 1; set < 1 << net.nodes; set++) {
-                common[set] = common[set & set - 1] & allowed[lowestOf(set)];
-            }
-        }
-
         private long countPart(int part) {
+            findGains(part);
             sum[0] = 1;
             int higher = part & part - 1;
             int size = 1 << Integer.bitCount(higher);
@@ -875,16 +913,25 @@ public final class ColourSearch {
             return sumOverBlocks(part);
         }
 
+        private void findGains(int part) {
+            int size = 1 << Integer.bitCount(part);
+            int set = 0;
+            common[0] = ALL_COLOURS;
+            for (int i = 1; i < size; i++) {
+                set = set - part & part;
+                common[set] = common[set & set - 1] & open[lowestOf(set)];
+                gain[set] = weight[set] * Integer.bitCount(common[set]);
+            }
+        }
+
+        /** The lowest node of a set stands in one block of each cut; the others are cut in all their ways. */
         private long sumOverBlocks(int set) {
             int higher = set & set - 1;
             int size = 1 << Integer.bitCount(higher);
             long total = 0;
             int others = 0;
             for (int i = 0; i < size; i++) {
-                int block = set ^ others;
-                if (weight[block] != 0) {
-                    total += (long) weight[block] * Integer.bitCount(common[block]) * sum[others];
-                }
+                total += gain[set ^ others] * sum[others];
                 others = others - higher & higher;
             }
             return total;

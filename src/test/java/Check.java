@@ -6,6 +6,7 @@ final class Check {
     private int asked = 0;
     private String where = "";
 
+    /** Where the answers that follow belong: a promise, and the words of it that they hold to. */
     void at(String place) {
         where = place;
     }
@@ -13,15 +14,62 @@ final class Check {
     void same(String call, long got, long due) {
         asked++;
         if (got != due) {
-            wrong++;
-            if (wrong <= MOST_PRINTED) {
-                System.out.println(where + ": " + call + " answered " + got + ", due is " + due);
-            }
+            tell(call + " answered " + got + ", due is " + due);
         }
     }
 
     void same(String call, boolean got, boolean due) {
         same(call, got ? 1 : 0, due ? 1 : 0);
+    }
+
+    void same(String call, String got, String due) {
+        asked++;
+        if (!got.equals(due)) {
+            tell(call + " answered " + got + ", due is " + due);
+        }
+    }
+
+    private void tell(String text) {
+        wrong++;
+        if (wrong <= MOST_PRINTED) {
+            System.out.println(where + ": " + text);
+        }
+    }
+
+    void colours(ColourSearch x, int... due) {
+        for (int v = 0; v < due.length; v++) {
+            same("colour(" + v + ")", x.colour(v), due[v]);
+        }
+    }
+
+    void shades(ColourSearch x, int... due) {
+        for (int i = 0; i < due.length; i++) {
+            same("shade(" + i + ")", x.shade(i), due[i]);
+        }
+    }
+
+    void tints(ColourSearch x, int... due) {
+        for (int v = 0; v < due.length; v++) {
+            same("tint(" + v + ")", x.tint(v), due[v]);
+        }
+    }
+
+    void tries(ColourSearch x, int... due) {
+        for (int v = 0; v < due.length; v++) {
+            same("tried(" + v + ")", x.tried(v), due[v]);
+        }
+    }
+
+    void takes(ColourSearch x, int... due) {
+        for (int k = 0; k < due.length; k++) {
+            same("taken(" + k + ")", x.taken(k), due[k]);
+        }
+    }
+
+    void tells(ColourSearch x, int... due) {
+        for (int what = 0; what < due.length; what++) {
+            same("told(" + what + ")", x.told(what), due[what]);
+        }
     }
 
     boolean allRight() {

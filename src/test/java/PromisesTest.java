@@ -45,85 +45,6 @@ public final class PromisesTest {
         promise28();
     }
 
-    private static ColourSearch nodes(int count) {
-        ColourSearch x = new ColourSearch();
-        for (int i = 0; i < count; i++) {
-            x.node();
-        }
-        return x;
-    }
-
-    private static ColourSearch net(int count, int... ends) {
-        ColourSearch x = nodes(count);
-        join(x, ends);
-        return x;
-    }
-
-    private static void join(ColourSearch x, int... ends) {
-        for (int i = 0; i < ends.length; i += 2) {
-            x.arc(ends[i], ends[i + 1]);
-        }
-    }
-
-    private static ColourSearch ring(int count) {
-        ColourSearch x = nodes(count);
-        for (int i = 0; i < count; i++) {
-            x.arc(i, (i + 1) % count);
-        }
-        return x;
-    }
-
-    private static ColourSearch complete(int count) {
-        ColourSearch x = nodes(count);
-        for (int a = 0; a < count; a++) {
-            for (int b = a + 1; b < count; b++) {
-                x.arc(a, b);
-            }
-        }
-        return x;
-    }
-
-    private static ColourSearch star(int leaves) {
-        ColourSearch x = nodes(leaves + 1);
-        for (int i = 1; i <= leaves; i++) {
-            x.arc(0, i);
-        }
-        return x;
-    }
-
-    private void colours(ColourSearch x, int... due) {
-        for (int v = 0; v < due.length; v++) {
-            check.same("colour(" + v + ")", x.colour(v), due[v]);
-        }
-    }
-
-    private void shades(ColourSearch x, int... due) {
-        for (int i = 0; i < due.length; i++) {
-            check.same("shade(" + i + ")", x.shade(i), due[i]);
-        }
-    }
-
-    private void tints(ColourSearch x, int... due) {
-        for (int v = 0; v < due.length; v++) {
-            check.same("tint(" + v + ")", x.tint(v), due[v]);
-        }
-    }
-
-    private void tries(ColourSearch x, int... due) {
-        for (int v = 0; v < due.length; v++) {
-            check.same("tried(" + v + ")", x.tried(v), due[v]);
-        }
-    }
-
-    private boolean arcsThrows(ColourSearch x) {
-        try {
-            x.arcs();
-            return false;
-        } catch (IllegalStateException e) {
-            return true;
-        }
-    }
-
     private void promise1() {
         check.at("promise 1");
         ColourSearch x = new ColourSearch();
@@ -159,7 +80,7 @@ public final class PromisesTest {
 
     private void promise3() {
         check.at("promise 3");
-        ColourSearch x = nodes(3);
+        ColourSearch x = Nets.nodes(3);
         check.same("arc(2, 0)", x.arc(2, 0), 0);
         check.same("arc(2, 0) again", x.arc(2, 0), NONE);
         check.same("arc(0, 2) again", x.arc(0, 2), NONE);
@@ -176,7 +97,7 @@ public final class PromisesTest {
     }
 
     private void promise3FortyArcs() {
-        ColourSearch x = nodes(12);
+        ColourSearch x = Nets.nodes(12);
         int made = 0;
         for (int a = 0; a < 12; a++) {
             for (int b = a + 1; b < 12; b++) {
@@ -192,10 +113,10 @@ public final class PromisesTest {
 
     private void promise4() {
         check.at("promise 4");
-        ColourSearch x = net(3, 0, 1, 1, 2);
+        ColourSearch x = Nets.net(3, 0, 1, 1, 2);
         check.same("drop", x.drop(), true);
         check.same("least", x.least(), 2);
-        colours(x, 0, 1, 0);
+        check.colours(x, 0, 1, 0);
         check.same("told(1)", x.told(1), 1);
         check.same("arc(1, 2)", x.arc(1, 2), 1);
         check.same("drop", x.drop(), true);
@@ -209,17 +130,17 @@ public final class PromisesTest {
     private void promise5() {
         check.at("promise 5");
         check.same("least of none", new ColourSearch().least(), 0);
-        check.same("least of one", nodes(1).least(), 1);
-        check.same("least without arcs", nodes(12).least(), 1);
-        check.same("least of nine all near", complete(9).least(), 9);
-        check.same("least of an even ring", ring(12).least(), 2);
-        ColourSearch odd = ring(11);
+        check.same("least of one", Nets.nodes(1).least(), 1);
+        check.same("least without arcs", Nets.nodes(12).least(), 1);
+        check.same("least of nine all near", Nets.complete(9).least(), 9);
+        check.same("least of an even ring", Nets.ring(12).least(), 2);
+        ColourSearch odd = Nets.ring(11);
         check.same("least of an odd ring", odd.least(), 3);
-        colours(odd, 0, 1, 0, 1, 0, 1, 0, 1, 0, 1, 2, NONE);
-        ColourSearch late = net(4, 0, 3, 1, 2, 1, 3);
+        check.colours(odd, 0, 1, 0, 1, 0, 1, 0, 1, 0, 1, 2, NONE);
+        ColourSearch late = Nets.net(4, 0, 3, 1, 2, 1, 3);
         check.same("least of a path", late.least(), 2);
-        colours(late, 0, 0, 1, 1);
-        ColourSearch groetzsch = net(11, 0, 1, 1, 2, 2, 3, 3, 4, 4, 0, 5, 1, 5, 4, 6, 0, 6, 2, 7, 1, 7, 3, 8, 2, 8, 4,
+        check.colours(late, 0, 0, 1, 1);
+        ColourSearch groetzsch = Nets.net(11, 0, 1, 1, 2, 2, 3, 3, 4, 4, 0, 5, 1, 5, 4, 6, 0, 6, 2, 7, 1, 7, 3, 8, 2, 8, 4,
             9, 3, 9, 0, 10, 5, 10, 6, 10, 7, 10, 8, 10, 9);
         check.same("least with no three near", groetzsch.least(), 4);
         check.same("its greatest clique", groetzsch.clique(), 0b11);
@@ -227,55 +148,55 @@ public final class PromisesTest {
 
     private void promise6() {
         check.at("promise 6");
-        ColourSearch x = star(4);
+        ColourSearch x = Nets.star(4);
         check.same("even(2)", x.even(2), 0);
-        colours(x, NONE, NONE, NONE, NONE, NONE);
+        check.colours(x, NONE, NONE, NONE, NONE, NONE);
         check.same("even(3)", x.even(3), 1);
-        colours(x, 0, 1, 1, 2, 2);
+        check.colours(x, 0, 1, 1, 2, 2);
         for (int wrong : new int[] {0, -1, 13, Integer.MAX_VALUE, Integer.MIN_VALUE}) {
             check.same("even(" + wrong + ")", x.even(wrong), NONE);
         }
-        colours(x, 0, 1, 1, 2, 2);
+        check.colours(x, 0, 1, 1, 2, 2);
         check.same("even(1)", x.even(1), 0);
-        colours(x, NONE, NONE, NONE, NONE, NONE);
+        check.colours(x, NONE, NONE, NONE, NONE, NONE);
         check.same("even(13)", x.even(13), NONE);
-        colours(x, NONE, NONE, NONE, NONE, NONE);
+        check.colours(x, NONE, NONE, NONE, NONE, NONE);
         check.same("even(12)", x.even(12), 1);
-        colours(x, 0, 1, 2, 3, 4);
+        check.colours(x, 0, 1, 2, 3, 4);
     }
 
     private void promise6Edges() {
-        check.same("even(1) of one", nodes(1).even(1), 1);
+        check.same("even(1) of one", Nets.nodes(1).even(1), 1);
         check.same("even(12) of none", new ColourSearch().even(12), 1);
-        ColourSearch loose = nodes(12);
+        ColourSearch loose = Nets.nodes(12);
         check.same("even(1)", loose.even(1), 1);
         check.same("even(5)", loose.even(5), 1);
-        colours(loose, 0, 0, 0, 1, 1, 1, 2, 2, 3, 3, 4, 4);
+        check.colours(loose, 0, 0, 0, 1, 1, 1, 2, 2, 3, 3, 4, 4);
         check.same("even(12)", loose.even(12), 1);
-        colours(loose, 0, 1, 2, 3, 4, 5, 6, 7, 8, 9, 10, 11);
-        ColourSearch threeByThree = net(6, 0, 3, 0, 4, 0, 5, 1, 3, 1, 4, 1, 5, 2, 3, 2, 4, 2, 5);
+        check.colours(loose, 0, 1, 2, 3, 4, 5, 6, 7, 8, 9, 10, 11);
+        ColourSearch threeByThree = Nets.net(6, 0, 3, 0, 4, 0, 5, 1, 3, 1, 4, 1, 5, 2, 3, 2, 4, 2, 5);
         check.same("even(2) of 3 by 3", threeByThree.even(2), 1);
-        colours(threeByThree, 0, 0, 0, 1, 1, 1);
+        check.colours(threeByThree, 0, 0, 0, 1, 1, 1);
         check.same("even(3) of 3 by 3", threeByThree.even(3), 0);
         check.same("even(4) of 3 by 3", threeByThree.even(4), 1);
-        colours(threeByThree, 0, 0, 1, 2, 2, 3);
+        check.colours(threeByThree, 0, 0, 1, 2, 2, 3);
     }
 
     private void promise7() {
         check.at("promise 7");
-        ColourSearch x = net(2, 0, 1);
-        colours(x, NONE, NONE);
+        ColourSearch x = Nets.net(2, 0, 1);
+        check.colours(x, NONE, NONE);
         x.least();
-        colours(x, 0, 1);
+        check.colours(x, 0, 1);
         x.node();
         x.drop();
-        colours(x, 0, 1, NONE);
+        check.colours(x, 0, 1, NONE);
         x.list(0, 1 << 11);
         x.list(2, 1 << 3);
         x.lists();
-        colours(x, 11, 0, 3);
+        check.colours(x, 11, 0, 3);
         x.even(3);
-        colours(x, 0, 1, 2);
+        check.colours(x, 0, 1, 2);
         x.greedy(0);
         x.chordal();
         x.clique();
@@ -283,7 +204,7 @@ public final class PromisesTest {
         x.listed();
         x.why();
         x.arcs();
-        colours(x, 0, 1, 2);
+        check.colours(x, 0, 1, 2);
         for (int wrong : WRONG_NUMBERS) {
             check.same("colour(" + wrong + ")", x.colour(wrong), NONE);
         }
@@ -291,21 +212,21 @@ public final class PromisesTest {
 
     private void promise8() {
         check.at("promise 8");
-        ColourSearch ring = ring(12);
+        ColourSearch ring = Nets.ring(12);
         check.same("ways(3) of a ring", ring.ways(3), 4096 + 2);
         check.same("ways(0) of a ring", ring.ways(0), 0);
         check.same("ways(-1) of a ring", ring.ways(-1), 4096 - 2);
-        ColourSearch loose = nodes(12);
+        ColourSearch loose = Nets.nodes(12);
         check.same("ways(12) without arcs", loose.ways(12), 8916100448256L);
         check.same("ways(1000000) without arcs", loose.ways(1000000), power(1000000, 12));
         check.same("ways(least long)", loose.ways(Long.MIN_VALUE), 0);
         check.same("ways(greatest long)", loose.ways(Long.MAX_VALUE), power(Long.MAX_VALUE, 12));
-        ColourSearch nine = complete(9);
+        ColourSearch nine = Nets.complete(9);
         check.same("ways(8) of nine all near", nine.ways(8), 0);
         check.same("ways(9) of nine all near", nine.ways(9), 362880);
         check.same("ways(-1) of nine all near", nine.ways(-1), -362880);
         check.same("ways of none", new ColourSearch().ways(-77), 1);
-        ColourSearch sixBySix = nodes(12);
+        ColourSearch sixBySix = Nets.nodes(12);
         for (int i = 0; i < 36; i++) {
             sixBySix.arc(i / 6, 6 + i % 6);
         }
@@ -323,7 +244,7 @@ public final class PromisesTest {
 
     private void promise9() {
         check.at("promise 9");
-        ColourSearch x = complete(4);
+        ColourSearch x = Nets.complete(4);
         long[] due = {0, -6, 11, -6, 1, 0, 0, 0, 0, 0, 0, 0, 0, 0, 0};
         for (int i = 0; i < due.length; i++) {
             check.same("coefficient(" + i + ")", x.coefficient(i), due[i]);
@@ -339,16 +260,16 @@ public final class PromisesTest {
         x.clear();
         check.same("coefficient(0)", x.coefficient(0), 1);
         check.same("coefficient(4)", x.coefficient(4), 0);
-        ColourSearch nine = complete(9);
+        ColourSearch nine = Nets.complete(9);
         check.same("coefficient(1) of nine all near", nine.coefficient(1), 40320);
-        ColourSearch loose = nodes(12);
+        ColourSearch loose = Nets.nodes(12);
         check.same("coefficient(12)", loose.coefficient(12), 1);
         check.same("coefficient(11)", loose.coefficient(11), 0);
     }
 
     private void promise10() {
         check.at("promise 10");
-        ColourSearch x = nodes(2);
+        ColourSearch x = Nets.nodes(2);
         check.same("list(0, 4095)", x.list(0, 4095), true);
         check.same("list(1, 2048)", x.list(1, 2048), true);
         check.same("listed", x.listed(), 12);
@@ -369,23 +290,23 @@ public final class PromisesTest {
 
     private void promise11() {
         check.at("promise 11");
-        ColourSearch x = net(3, 0, 1, 1, 2);
+        ColourSearch x = Nets.net(3, 0, 1, 1, 2);
         check.same("lists", x.lists(), 1);
-        colours(x, 0, 1, 0);
+        check.colours(x, 0, 1, 0);
         x.list(0, 0b110000000000);
         x.list(1, 0b110000000000);
         x.list(2, 0b010000000000);
         check.same("lists", x.lists(), 1);
-        colours(x, 10, 11, 10);
+        check.colours(x, 10, 11, 10);
         x.list(0, 0b100000000000);
         check.same("lists", x.lists(), 0);
-        colours(x, NONE, NONE, NONE);
-        ColourSearch nine = complete(9);
+        check.colours(x, NONE, NONE, NONE);
+        ColourSearch nine = Nets.complete(9);
         for (int v = 0; v < 9; v++) {
             nine.list(v, 255 << v % 2);
         }
         check.same("lists of nine all near", nine.lists(), 1);
-        colours(nine, 0, 1, 2, 3, 4, 5, 6, 8, 7);
+        check.colours(nine, 0, 1, 2, 3, 4, 5, 6, 8, 7);
         for (int v = 0; v < 9; v++) {
             nine.list(v, 255);
         }
@@ -395,14 +316,14 @@ public final class PromisesTest {
     private void promise12() {
         check.at("promise 12");
         check.same("listed of none", new ColourSearch().listed(), 1);
-        check.same("listed of twelve", nodes(12).listed(), 8916100448256L);
-        ColourSearch x = net(3, 0, 1, 1, 2, 2, 0);
+        check.same("listed of twelve", Nets.nodes(12).listed(), 8916100448256L);
+        ColourSearch x = Nets.net(3, 0, 1, 1, 2, 2, 0);
         check.same("listed", x.listed(), 12 * 11 * 10);
         x.list(0, 0b0011);
         x.list(1, 0b0110);
         x.list(2, 0b1100);
         check.same("listed with lists", x.listed(), 4);
-        ColourSearch ring = ring(12);
+        ColourSearch ring = Nets.ring(12);
         for (int v = 0; v < 12; v++) {
             ring.list(v, 0b111 << v % 3 * 3);
         }
@@ -417,7 +338,7 @@ public final class PromisesTest {
 
     private void promise13() {
         check.at("promise 13");
-        ColourSearch x = net(5, 0, 1, 1, 2, 2, 3, 3, 4, 4, 0);
+        ColourSearch x = Nets.net(5, 0, 1, 1, 2, 2, 3, 3, 4, 4, 0);
         check.same("why", x.why(), 0);
         for (int v = 0; v < 5; v++) {
             x.list(v, 0b11);
@@ -425,7 +346,7 @@ public final class PromisesTest {
         check.same("why of an odd ring", x.why(), 31);
         x.list(3, 0);
         check.same("why with an empty list", x.why(), 8);
-        ColourSearch twice = net(6, 0, 1, 2, 3, 4, 5);
+        ColourSearch twice = Nets.net(6, 0, 1, 2, 3, 4, 5);
         for (int v = 0; v < 6; v++) {
             twice.list(v, 1 << v / 2);
         }
@@ -442,53 +363,53 @@ public final class PromisesTest {
     private void promise14() {
         check.at("promise 14");
         check.same("arcs of none", new ColourSearch().arcs(), 0);
-        check.same("arcs without arcs", nodes(12).arcs(), 0);
-        check.same("arcs of one", net(2, 1, 0).arcs(), 1);
-        check.same("arcs of a star", star(11).arcs(), 11);
-        check.same("arcs of an even ring", ring(12).arcs(), 2);
-        ColourSearch odd = ring(3);
+        check.same("arcs without arcs", Nets.nodes(12).arcs(), 0);
+        check.same("arcs of one", Nets.net(2, 1, 0).arcs(), 1);
+        check.same("arcs of a star", Nets.star(11).arcs(), 11);
+        check.same("arcs of an even ring", Nets.ring(12).arcs(), 2);
+        ColourSearch odd = Nets.ring(3);
         check.same("arcs of an odd ring", odd.arcs(), 3);
-        shades(odd, 0, 1, 2);
-        check.same("arcs of four all near", complete(4).arcs(), 3);
-        check.same("arcs of five all near", complete(5).arcs(), 5);
-        check.same("arcs of six all near", complete(6).arcs(), 5);
-        ColourSearch path = net(4, 0, 1, 2, 3, 1, 2);
+        check.shades(odd, 0, 1, 2);
+        check.same("arcs of four all near", Nets.complete(4).arcs(), 3);
+        check.same("arcs of five all near", Nets.complete(5).arcs(), 5);
+        check.same("arcs of six all near", Nets.complete(6).arcs(), 5);
+        ColourSearch path = Nets.net(4, 0, 1, 2, 3, 1, 2);
         check.same("arcs of a path", path.arcs(), 2);
-        shades(path, 0, 0, 1);
-        ColourSearch late = net(5, 0, 1, 2, 3, 3, 4, 1, 2);
+        check.shades(path, 0, 0, 1);
+        ColourSearch late = Nets.net(5, 0, 1, 2, 3, 3, 4, 1, 2);
         check.same("arcs of a path told otherwise", late.arcs(), 2);
-        shades(late, 0, 0, 1, 1);
+        check.shades(late, 0, 0, 1, 1);
     }
 
     private void promise14Edges() {
-        ColourSearch x = nodes(12);
+        ColourSearch x = Nets.nodes(12);
         for (int i = 0; i < 16; i++) {
             x.arc(i / 4, 4 + i % 4);
         }
         check.same("arcs with 16", x.arcs(), 4);
-        shades(x, 0, 1, 2, 3, 1, 0, 3, 2, 2, 3, 0, 1, 3, 2, 1, 0, NONE);
+        check.shades(x, 0, 1, 2, 3, 1, 0, 3, 2, 2, 3, 0, 1, 3, 2, 1, 0, NONE);
         x.arc(10, 11);
-        check.same("arcs with 17 throws", arcsThrows(x), true);
-        shades(x, 0, 1, 2, 3, 1, 0, 3, 2, 2, 3, 0, 1, 3, 2, 1, 0, NONE);
+        check.same("arcs with 17 throws", Nets.arcsThrows(x), true);
+        check.shades(x, 0, 1, 2, 3, 1, 0, 3, 2, 2, 3, 0, 1, 3, 2, 1, 0, NONE);
         x.drop();
-        check.same("arcs with 16 throws", arcsThrows(x), false);
+        check.same("arcs with 16 throws", Nets.arcsThrows(x), false);
     }
 
     private void promise15() {
         check.at("promise 15");
-        ColourSearch x = net(4, 0, 1, 1, 2, 2, 3);
-        shades(x, NONE, NONE, NONE);
+        ColourSearch x = Nets.net(4, 0, 1, 1, 2, 2, 3);
+        check.shades(x, NONE, NONE, NONE);
         x.arcs();
-        shades(x, 0, 1, 0, NONE);
+        check.shades(x, 0, 1, 0, NONE);
         x.arc(0, 3);
-        shades(x, 0, 1, 0, NONE);
+        check.shades(x, 0, 1, 0, NONE);
         x.drop();
         x.drop();
-        shades(x, 0, 1, NONE, NONE);
+        check.shades(x, 0, 1, NONE, NONE);
         x.arc(0, 2);
-        shades(x, 0, 1, NONE, NONE);
+        check.shades(x, 0, 1, NONE, NONE);
         x.arcs();
-        shades(x, 0, 1, 2, NONE);
+        check.shades(x, 0, 1, 2, NONE);
         for (int wrong : WRONG_NUMBERS) {
             check.same("shade(" + wrong + ")", x.shade(wrong), NONE);
         }
@@ -497,26 +418,26 @@ public final class PromisesTest {
     private void promise16And17() {
         check.at("promise 16");
         check.same("clique of none", new ColourSearch().clique(), 0);
-        check.same("clique without arcs", nodes(12).clique(), 1);
-        check.same("clique of nine all near", complete(9).clique(), 511);
-        ColourSearch two = net(7, 1, 3, 3, 5, 5, 1, 0, 2, 2, 4, 4, 6);
+        check.same("clique without arcs", Nets.nodes(12).clique(), 1);
+        check.same("clique of nine all near", Nets.complete(9).clique(), 511);
+        ColourSearch two = Nets.net(7, 1, 3, 3, 5, 5, 1, 0, 2, 2, 4, 4, 6);
         check.same("clique: the most nodes", two.clique(), 0b101010);
-        join(two, 0, 4);
+        Nets.join(two, 0, 4);
         check.same("clique: the lowest node in which they differ", two.clique(), 0b10101);
         check.at("promise 17");
         check.same("apart of none", new ColourSearch().apart(), 0);
-        check.same("apart without arcs", nodes(12).apart(), 4095);
-        check.same("apart of nine all near", complete(9).apart(), 1);
-        check.same("apart of a ring", ring(12).apart(), 0b010101010101);
-        check.same("apart of a star", star(11).apart(), 4094);
-        check.same("apart of a path", net(4, 0, 1, 1, 2, 2, 3).apart(), 0b101);
+        check.same("apart without arcs", Nets.nodes(12).apart(), 4095);
+        check.same("apart of nine all near", Nets.complete(9).apart(), 1);
+        check.same("apart of a ring", Nets.ring(12).apart(), 0b010101010101);
+        check.same("apart of a star", Nets.star(11).apart(), 4094);
+        check.same("apart of a path", Nets.net(4, 0, 1, 1, 2, 2, 3).apart(), 0b101);
     }
 
     private void promise18To20() {
         check.at("promise 18");
         check.same("chordal of none", new ColourSearch().chordal(), 1);
-        check.same("chordal of nine all near", complete(9).chordal(), 1);
-        ColourSearch x = net(7, 0, 1, 1, 2, 2, 3, 3, 0, 0, 6, 6, 5);
+        check.same("chordal of nine all near", Nets.complete(9).chordal(), 1);
+        ColourSearch x = Nets.net(7, 0, 1, 1, 2, 2, 3, 3, 0, 0, 6, 6, 5);
         check.same("left before", x.left(), 0);
         check.same("taken before", x.taken(0), NONE);
         check.same("chordal", x.chordal(), 0);
@@ -544,44 +465,44 @@ public final class PromisesTest {
 
     private void promise21() {
         check.at("promise 21");
-        ColourSearch crown = net(6, 0, 3, 0, 5, 1, 2, 1, 4, 2, 5, 3, 4);
+        ColourSearch crown = Nets.net(6, 0, 3, 0, 5, 1, 2, 1, 4, 2, 5, 3, 4);
         check.same("greedy(0) of a ring told crosswise", crown.greedy(0), 3);
-        tints(crown, 0, 0, 1, 1, 2, 2);
+        check.tints(crown, 0, 0, 1, 1, 2, 2);
         check.same("greedy(1)", crown.greedy(1), 3);
         check.same("greedy(2)", crown.greedy(2), 2);
-        tints(crown, 0, 1, 0, 1, 0, 1);
+        check.tints(crown, 0, 1, 0, 1, 0, 1);
         check.same("greedy(3)", crown.greedy(3), 2);
-        tints(crown, 0, 1, 0, 1, 0, 1);
-        ColourSearch late = net(5, 4, 3, 4, 2, 4, 1, 0, 1);
+        check.tints(crown, 0, 1, 0, 1, 0, 1);
+        ColourSearch late = Nets.net(5, 4, 3, 4, 2, 4, 1, 0, 1);
         check.same("greedy(0) of a tree", late.greedy(0), 3);
-        tints(late, 0, 1, 0, 0, 2);
+        check.tints(late, 0, 1, 0, 0, 2);
         check.same("greedy(1): the most near first", late.greedy(1), 2);
-        tints(late, 0, 1, 1, 1, 0);
+        check.tints(late, 0, 1, 1, 1, 0);
         check.same("greedy(2)", late.greedy(2), 2);
-        tints(late, 0, 1, 1, 1, 0);
+        check.tints(late, 0, 1, 1, 1, 0);
         for (int wrong : new int[] {-1, 4, 5, Integer.MAX_VALUE, Integer.MIN_VALUE}) {
             check.same("greedy(" + wrong + ")", late.greedy(wrong), NONE);
         }
         for (int order = 0; order < 4; order++) {
-            check.same("greedy(" + order + ") of nine all near", complete(9).greedy(order), 9);
-            check.same("greedy(" + order + ") without arcs", nodes(12).greedy(order), 1);
+            check.same("greedy(" + order + ") of nine all near", Nets.complete(9).greedy(order), 9);
+            check.same("greedy(" + order + ") without arcs", Nets.nodes(12).greedy(order), 1);
             check.same("greedy(" + order + ") of none", new ColourSearch().greedy(order), 0);
         }
     }
 
     private void promise22() {
         check.at("promise 22");
-        ColourSearch x = net(3, 0, 1);
-        tints(x, NONE, NONE, NONE);
+        ColourSearch x = Nets.net(3, 0, 1);
+        check.tints(x, NONE, NONE, NONE);
         x.greedy(0);
-        tints(x, 0, 1, 0);
+        check.tints(x, 0, 1, 0);
         x.greedy(4);
         x.least();
         x.node();
         x.arc(2, 1);
-        tints(x, 0, 1, 0, NONE);
+        check.tints(x, 0, 1, 0, NONE);
         x.greedy(1);
-        tints(x, 1, 0, 1, 0);
+        check.tints(x, 1, 0, 1, 0);
         for (int wrong : WRONG_NUMBERS) {
             check.same("tint(" + wrong + ")", x.tint(wrong), NONE);
         }
@@ -589,8 +510,8 @@ public final class PromisesTest {
 
     private void promise23And24() {
         check.at("promise 23");
-        ColourSearch x = nodes(2);
-        tries(x, NONE, NONE, NONE);
+        ColourSearch x = Nets.nodes(2);
+        check.tries(x, NONE, NONE, NONE);
         check.same("put(0, 11)", x.put(0, 11), true);
         check.same("put(1, 0)", x.put(1, 0), true);
         for (int wrong : new int[] {12, -2, Integer.MAX_VALUE, Integer.MIN_VALUE}) {
@@ -601,11 +522,11 @@ public final class PromisesTest {
         }
         check.same("put(2, 1)", x.put(2, 1), false);
         check.at("promise 24");
-        tries(x, 11, 0, NONE);
+        check.tries(x, 11, 0, NONE);
         x.node();
-        tries(x, 11, 0, NONE);
+        check.tries(x, 11, 0, NONE);
         check.same("put(0, NONE)", x.put(0, NONE), true);
-        tries(x, NONE, 0, NONE);
+        check.tries(x, NONE, 0, NONE);
         for (int wrong : WRONG_NUMBERS) {
             check.same("tried(" + wrong + ")", x.tried(wrong), NONE);
         }
@@ -613,7 +534,7 @@ public final class PromisesTest {
 
     private void promise25() {
         check.at("promise 25");
-        ColourSearch x = net(3, 0, 1, 1, 2, 2, 0);
+        ColourSearch x = Nets.net(3, 0, 1, 1, 2, 2, 0);
         check.same("faults", x.faults(), 0);
         x.put(0, 5);
         x.put(1, 5);
@@ -628,15 +549,15 @@ public final class PromisesTest {
 
     private void promise26() {
         check.at("promise 26");
-        ColourSearch x = net(6, 0, 1, 1, 2, 2, 3, 3, 4, 4, 5);
+        ColourSearch x = Nets.net(6, 0, 1, 1, 2, 2, 3, 3, 4, 4, 5);
         int[] colours = {0, 1, 0, 2, 0, 1};
         for (int v = 0; v < 6; v++) {
             x.put(v, colours[v]);
         }
         check.same("turn(1, 0)", x.turn(1, 0), 3);
-        tries(x, 1, 0, 1, 2, 0, 1);
+        check.tries(x, 1, 0, 1, 2, 0, 1);
         check.same("turn(3, 11)", x.turn(3, 11), 1);
-        tries(x, 1, 0, 1, 11, 0, 1);
+        check.tries(x, 1, 0, 1, 11, 0, 1);
         check.same("turn to its own", x.turn(3, 11), NONE);
         check.same("turn(0, NONE)", x.turn(0, NONE), NONE);
         check.same("turn(0, 12)", x.turn(0, 12), NONE);
@@ -644,19 +565,19 @@ public final class PromisesTest {
             check.same("turn(" + wrong + ", 1)", x.turn(wrong, 1), NONE);
         }
         check.same("turn(6, 1)", x.turn(6, 1), NONE);
-        tries(x, 1, 0, 1, 11, 0, 1);
+        check.tries(x, 1, 0, 1, 11, 0, 1);
         x.put(1, 1);
         check.same("turn where near ones are alike", x.turn(0, 4), 3);
-        tries(x, 4, 4, 4, 11, 0, 1);
+        check.tries(x, 4, 4, 4, 11, 0, 1);
         x.put(5, NONE);
         check.same("turn without a colour", x.turn(5, 1), NONE);
         check.same("turn(4, 3)", x.turn(4, 3), 1);
-        tries(x, 4, 4, 4, 11, 3, NONE);
+        check.tries(x, 4, 4, 4, 11, 3, NONE);
     }
 
     private void promise27() {
         check.at("promise 27");
-        ColourSearch x = net(6, 0, 1, 1, 2, 1, 3, 4, 5);
+        ColourSearch x = Nets.net(6, 0, 1, 1, 2, 1, 3, 4, 5);
         x.put(0, 3);
         x.put(1, 3);
         x.put(5, 0);
@@ -669,12 +590,12 @@ public final class PromisesTest {
         }
         x.drop();
         check.same("told(3)", x.told(3), 3);
-        check.same("told(3) without arcs", nodes(12).told(3), 12);
+        check.same("told(3) without arcs", Nets.nodes(12).told(3), 12);
     }
 
     private void promise28() {
         check.at("promise 28");
-        ColourSearch x = net(4, 0, 1, 1, 2, 2, 3, 3, 0);
+        ColourSearch x = Nets.net(4, 0, 1, 1, 2, 2, 3, 3, 0);
         x.least();
         x.arcs();
         x.chordal();

@@ -654,11 +654,13 @@ public final class ColourSearch {
             int top = 0;
             for (int i = 0; i < FAR_TOO_MANY && top >= 0; i++) {
                 takeFactors(top);
-                if (nodes[top] == 0) {
+                // No such pair: no node is left, for one whose near ones are all near would be a factor by now.
+                int pair = farPair(top, near[top][fewestNear(top)] & nodes[top]);
+                if (pair == 0 || top + 1 >= PILE) {
                     addProduct(factors[top]);
                     top--;
-                } else if (top + 1 < PILE) {
-                    splitTop(top);
+                } else {
+                    splitTop(top, pair);
                     top++;
                 }
             }
@@ -709,8 +711,7 @@ public final class ColourSearch {
         }
 
         /** The net at top gives way to the one where the pair is one node; above it comes the one with the arc. */
-        private void splitTop(int top) {
-            int pair = farPair(top, near[top][fewestNear(top)] & nodes[top]);
+        private void splitTop(int top, int pair) {
             int a = lowestOf(pair);
             int b = lowestOf(pair & pair - 1);
             System.arraycopy(near[top], 0, near[top + 1], 0, MOST_NODES);

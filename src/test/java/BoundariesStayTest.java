@@ -207,6 +207,7 @@ public final class BoundariesStayTest {
         x.apart();
         x.chordal();
         x.greedy(3);
+        // Number 3 is a new arc by now: the one that was told of is gone.
         check.shades(x, 0, 1, 0, NONE, NONE, NONE);
     }
 

@@ -9,6 +9,7 @@ public final class PromisesTest {
         PromisesTest test = new PromisesTest();
         test.runFirstHalf();
         test.runSecondHalf();
+        test.readmeExample();
         test.check.end();
     }
 
@@ -626,5 +627,28 @@ public final class PromisesTest {
         x.chordal();
         x.clear();
         check.same("taken(0)", x.taken(0), NONE);
+    }
+
+    private void readmeExample() {
+        check.at("README.md, how to use it");
+        ColourSearch net = new ColourSearch();
+        int a = net.node();
+        int b = net.node();
+        int c = net.node();
+        check.same("arc(a, b)", net.arc(a, b), 0);
+        check.same("arc(b, c)", net.arc(b, c), 1);
+        check.same("least()", net.least(), 2);
+        check.same("colour(c)", net.colour(c), 0);
+        check.same("ways(3)", net.ways(3), 12);
+        check.same("list(a, 0b1)", net.list(a, 0b1), true);
+        check.same("list(b, 0b1)", net.list(b, 0b1), true);
+        check.same("lists()", net.lists(), 0);
+        check.same("why()", net.why(), 0b11);
+        check.same("arcs()", net.arcs(), 2);
+        check.same("shade(1)", net.shade(1), 1);
+        check.same("put(a, 0)", net.put(a, 0), true);
+        check.same("put(b, 1)", net.put(b, 1), true);
+        check.same("turn(a, 1)", net.turn(a, 1), 2);
+        check.same("tried(a)", net.tried(a), 1);
     }
 }
